@@ -5,6 +5,7 @@ public final class Promise1Test {
   public static void main(String[] args) {
     Check check = new Check();
     emptyAtStart(check);
+    noCellAtAnyIndex(check);
     emptyAfterAsking(check);
     independentObjects(check);
     check.end();
@@ -18,6 +19,13 @@ public final class Promise1Test {
       check.due("new: cell(" + i + ")", new SqliteVarint().cell(i), -1);
     }
     check.dueState("new", new SqliteVarint(), 0, NO_BYTES);
+  }
+
+  private static void noCellAtAnyIndex(Check check) {
+    SqliteVarint x = new SqliteVarint();
+    for (int i : Values.indexes()) {
+      check.due("new: cell(" + i + ")", x.cell(i), -1);
+    }
   }
 
   private static void emptyAfterAsking(Check check) {

@@ -5,8 +5,15 @@ public final class Promise2Test {
     examplesOfTheDocument(check);
     tableOfLengths(check);
     everyWidth(check);
+    neverRefuses(check);
+    edgeOfNineBytes(check);
+    negativesTakeNineBytes(check);
+    placeOfEachBitOfNineBytes(check);
     lastByteOfNine(check);
+    markersOfShorterCases(check);
+    highGroupFirst(check);
     nothingRemains(check);
+    bytesExactlyBelowTheAnswer(check);
     sameValueAgain(check);
     check.end();
   }
@@ -50,6 +57,52 @@ public final class Promise2Test {
     }
   }
 
+  private static void neverRefuses(Check check) {
+    for (long v : Values.edges()) {
+      dueOneToNine(check, "new put(" + v + ")", new SqliteVarint().put(v));
+      for (long before : Values.fullOfEachLength()) {
+        SqliteVarint x = new SqliteVarint();
+        x.put(before);
+        dueOneToNine(check, "put(" + before + "), put(" + v + ")", x.put(v));
+      }
+    }
+  }
+
+  private static void dueOneToNine(Check check, String call, int n) {
+    check.due(call + " = " + n + " is in 1..9", n >= 1 && n <= 9 ? 1 : 0, 1);
+  }
+
+  private static void edgeOfNineBytes(Check check) {
+    example(check, (1L << 56) - 2, 0xFF, 0xFF, 0xFF, 0xFF, 0xFF, 0xFF, 0xFF, 0x7E);
+    example(check, (1L << 56) - 1, 0xFF, 0xFF, 0xFF, 0xFF, 0xFF, 0xFF, 0xFF, 0x7F);
+    example(check, 1L << 56, 0x80, 0xC0, 0x80, 0x80, 0x80, 0x80, 0x80, 0x80, 0x00);
+    example(check, (1L << 56) + 1, 0x80, 0xC0, 0x80, 0x80, 0x80, 0x80, 0x80, 0x80, 0x01);
+    example(check, Long.MAX_VALUE, 0xBF, 0xFF, 0xFF, 0xFF, 0xFF, 0xFF, 0xFF, 0xFF, 0xFF);
+    example(check, Long.MIN_VALUE + 1, 0xC0, 0x80, 0x80, 0x80, 0x80, 0x80, 0x80, 0x80, 0x01);
+  }
+
+  private static void negativesTakeNineBytes(Check check) {
+    SqliteVarint x = new SqliteVarint();
+    for (long v : Values.edges()) {
+      if (v < 0) {
+        check.due("put(" + v + ")", x.put(v), 9);
+      }
+    }
+  }
+
+  /** Bits 63..57 are in byte 0, and so on down to bits 14..8 in byte 7, and 7..0 in byte 8. */
+  private static void placeOfEachBitOfNineBytes(Check check) {
+    for (int bit = 0; bit < 64; bit++) {
+      int[] bytes = {255, 255, 255, 255, 255, 255, 255, 255, 255};
+      if (bit <= 7) {
+        bytes[8] -= 1 << bit;
+      } else {
+        bytes[(63 - bit) / 7] -= 1 << ((bit - 8) % 7);
+      }
+      example(check, -1L - (1L << bit), bytes);
+    }
+  }
+
   private static void lastByteOfNine(Check check) {
     SqliteVarint x = new SqliteVarint();
     for (int low = 0; low <= 255; low++) {
@@ -57,6 +110,29 @@ public final class Promise2Test {
       check.due("put((1L << 56) + " + low + "): cell(8)", x.cell(8), low);
       check.due("put((1L << 56) + " + low + "): cell(7)", x.cell(7), 0x80);
     }
+  }
+
+  private static void markersOfShorterCases(Check check) {
+    for (long v : Values.edges()) {
+      SqliteVarint x = new SqliteVarint();
+      int n = x.put(v);
+      for (int i = 0; i < n && n < 9; i++) {
+        String call = "put(" + v + "): 0x80 of cell(" + i + ")";
+        check.due(call, x.cell(i) & 0x80, i < n - 1 ? 0x80 : 0);
+      }
+    }
+  }
+
+  private static void highGroupFirst(Check check) {
+    example(check, 0x01L, 0x01);
+    example(check, 0x82L, 0x81, 0x02);
+    example(check, 0x4103L, 0x81, 0x82, 0x03);
+    example(check, 0x208184L, 0x81, 0x82, 0x83, 0x04);
+    example(check, 0x1040C205L, 0x81, 0x82, 0x83, 0x84, 0x05);
+    example(check, 0x820610286L, 0x81, 0x82, 0x83, 0x84, 0x85, 0x06);
+    example(check, 0x41030814307L, 0x81, 0x82, 0x83, 0x84, 0x85, 0x86, 0x07);
+    example(check, 0x2081840A18388L, 0x81, 0x82, 0x83, 0x84, 0x85, 0x86, 0x87, 0x08);
+    example(check, 0x02081840A1838809L, 0x81, 0x82, 0x83, 0x84, 0x85, 0x86, 0x87, 0x88, 0x09);
   }
 
   private static void nothingRemains(Check check) {
@@ -68,6 +144,17 @@ public final class Promise2Test {
         x.put(before);
         check.duePut("put(" + before + "), then ", x, after, Values.encoding(after));
         check.duePut("put(" + after + "), then ", x, before, Values.encoding(before));
+      }
+    }
+  }
+
+  private static void bytesExactlyBelowTheAnswer(Check check) {
+    SqliteVarint x = new SqliteVarint();
+    for (long v : Values.edges()) {
+      int n = x.put(v);
+      for (int i = -3; i <= 12; i++) {
+        String call = "put(" + v + ") = " + n + ": cell(" + i + ") is a byte";
+        check.due(call, x.cell(i) != -1 ? 1 : 0, i >= 0 && i < n ? 1 : 0);
       }
     }
   }

@@ -4,7 +4,9 @@ public final class Promise3Test {
     Check check = new Check();
     zeroBeforeAnyPut(check);
     sameBitsComeBack(check);
+    negativeComesBackNegative(check);
     getChangesNothing(check);
+    sameAnswerUntilTheNextPut(check);
     check.end();
   }
 
@@ -32,6 +34,16 @@ public final class Promise3Test {
     }
   }
 
+  private static void negativeComesBackNegative(Check check) {
+    for (long v : new long[] {
+        -1L, -2L, -127L, -128L, -129L, -255L, -256L, -257L, Integer.MIN_VALUE, -(1L << 32),
+        -(1L << 56), -(1L << 56) - 1, -(1L << 57), Long.MIN_VALUE + 1, Long.MIN_VALUE}) {
+      SqliteVarint x = new SqliteVarint();
+      x.put(v);
+      check.due("new put(" + v + "): get()", x.get(), v);
+    }
+  }
+
   private static void getChangesNothing(Check check) {
     SqliteVarint x = new SqliteVarint();
     for (long v : Values.edges()) {
@@ -41,5 +53,18 @@ public final class Promise3Test {
       }
       check.dueState("put(" + v + "), after get()", x, v, Values.encoding(v));
     }
+  }
+
+  private static void sameAnswerUntilTheNextPut(Check check) {
+    SqliteVarint x = new SqliteVarint();
+    long stored = 0;
+    for (long next : new long[] {-1L, 0L, 128L, Long.MIN_VALUE, 127L, 1L << 56, (1L << 56) - 1}) {
+      for (int round = 0; round < 1000; round++) {
+        check.due("get(), round " + round + " before put(" + next + ")", x.get(), stored);
+      }
+      x.put(next);
+      stored = next;
+    }
+    check.due("get() at the end", x.get(), stored);
   }
 }

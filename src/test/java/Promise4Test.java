@@ -3,8 +3,10 @@ public final class Promise4Test {
   public static void main(String[] args) {
     Check check = new Check();
     outsideTheLength(check);
+    everyKindOfIndex(check);
     beyondAShorterEncoding(check);
     neverNegativeInside(check);
+    ffIs255(check);
     cellChangesNothing(check);
     check.end();
   }
@@ -28,6 +30,18 @@ public final class Promise4Test {
       int n = x.put(v);
       dueOutside(check, "put(" + v + ")", x, n);
       check.dueState("put(" + v + "), after cells outside", x, v, Values.encoding(v));
+    }
+  }
+
+  private static void everyKindOfIndex(Check check) {
+    for (long v : Values.fullOfEachLength()) {
+      SqliteVarint x = new SqliteVarint();
+      x.put(v);
+      int[] bytes = Values.encoding(v);
+      for (int i : Values.indexes()) {
+        int want = i >= 0 && i < bytes.length ? bytes[i] : -1;
+        check.due("put(" + v + "): cell(" + i + ")", x.cell(i), want);
+      }
     }
   }
 
@@ -56,6 +70,21 @@ public final class Promise4Test {
         check.due("put(" + v + "): cell(" + i + ") in 0..255", answer >= 0 && answer <= 255 ? 1 : 0, 1);
       }
     }
+  }
+
+  /** 0xFF as a byte with its marker, at each place it can have, and as the ninth byte. */
+  private static void ffIs255(Check check) {
+    long[] full = Values.fullOfEachLength();
+    for (int n = 2; n <= 9; n++) {
+      SqliteVarint x = new SqliteVarint();
+      x.put(full[n - 1]);
+      for (int i = 0; i < n - 1; i++) {
+        check.due("put(" + full[n - 1] + "): cell(" + i + ")", x.cell(i), 255);
+      }
+    }
+    SqliteVarint x = new SqliteVarint();
+    x.put((1L << 56) + 0xFF);
+    check.due("put((1L << 56) + 0xFF): cell(8)", x.cell(8), 255);
   }
 
   private static void cellChangesNothing(Check check) {

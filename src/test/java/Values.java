@@ -80,4 +80,27 @@ final class Values {
         0L, 128L, 16384L, 2097152L, 268435456L, 34359738368L, 4398046511104L, 562949953421312L,
         72057594037927936L};
   }
+
+  /**
+   * Indexes of every kind: all near the nine cells, both ends of int, every single bit (an index
+   * that is inside once its high bits are lost), and steps through the whole range of int.
+   */
+  static List<Integer> indexes() {
+    List<Integer> found = new ArrayList<>();
+    for (int i = -300; i <= 300; i++) {
+      found.add(i);
+    }
+    for (int bit = 0; bit < 32; bit++) {
+      found.add(1 << bit);
+      found.add(-(1 << bit));
+    }
+    for (long i = Integer.MIN_VALUE; i <= Integer.MAX_VALUE; i += 9999991) {
+      found.add((int) i);
+    }
+    for (int i = 0; i <= 9; i++) {
+      found.add(Integer.MIN_VALUE + i);
+      found.add(Integer.MAX_VALUE - i);
+    }
+    return found;
+  }
 }
